@@ -24,6 +24,7 @@ public final class ChangesTest {
         promise5NewLine();
         promise6AddTray();
         promise7CloseShelves();
+        promise7LowShelves();
         Check.end();
     }
 
@@ -320,6 +321,7 @@ public final class ChangesTest {
         Check.due("its shelf stays", 1, () -> trays.tray(0, 0));
         Check.due("drop is undoable", 3, trays::undo);
         Check.due("it is there again", 1, () -> trays.letter(0, 3, 2, 7));
+        Check.due("the one dropped before is not", -1, () -> trays.letter(1, 3, 2, 7));
         trays.drop(0, 3, 2);
         trays.use(0, 3, 2);
         Check.due("made anew, its uses begin anew", 1, () -> trays.drop(0, 3, 2));
@@ -357,6 +359,23 @@ public final class ChangesTest {
         Check.due("addTray is undoable", 1, trays::undo);
         Check.thrown("the third tray is gone", INDEX, () -> trays.tray(2, 0));
         Check.due("third tray again", 2, trays::addTray);
+    }
+
+    private static void promise7LowShelves() {
+        TypeTrays trays = made();
+        for (int sign = 0; sign < 12; sign++) {
+            trays.cut(sign, 6, 1);
+            trays.use(sign, 1, 0);
+        }
+        Check.due("three shelves of height 1", 3, () -> trays.tray(0, 1));
+        for (int sign = 0; sign < 8; sign++) {
+            trays.drop(sign, 1, 0);
+        }
+        Check.due("the upper two are closed", 2, trays::closeShelves);
+        Check.due("the lowest is shelf 0", 0, () -> trays.letter(8, 1, 0, 8));
+        Check.due("its last letter too", 0, () -> trays.letter(11, 1, 0, 8));
+        Check.due("x stays", 18, () -> trays.letter(11, 1, 0, 1));
+        Check.due("a shelf of height 1 is left", 1, () -> trays.tray(0, 1));
     }
 
     private static void promise7CloseShelves() {

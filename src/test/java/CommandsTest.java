@@ -74,6 +74,9 @@ public final class CommandsTest {
         faultAt("used 1 1 0;", 0);
         faultAt("lines;", 0);
         faultAt("xyz 1", 0);
+        faultAt("usez 1 1 0;", 0);
+        faultAt("ause 1 1 0;", 0);
+        faultAt("line;linea;", 5);
         faultAt("line; trai;", 6);
         faultAt("line;tray;closed", 10);
         faultAt("line;tray;close", 15);

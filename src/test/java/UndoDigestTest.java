@@ -53,15 +53,32 @@ public final class UndoDigestTest {
         trays.use(5, 3, 0);
         trays.newLine();
         trays.newLine();
+        trays.addTray();
         long before = withoutStack(trays);
-        trays.use(6, 3, 2);
+        trays.use(5, 3, 0);
+        trays.drop(1, 2, 1);
         trays.use(9, 3, 0);
-        trays.cut(0, 1, 1);
-        trays.closeShelves();
-        for (int times = 0; times < 4; times++) {
-            trays.undo();
-        }
+        trays.use(0, 1, 0);
+        undoAll(trays);
         Check.due("all is as before", before, () -> withoutStack(trays));
+        trays.cut(0, 1, 1);
+        trays.use(10, 1, 1);
+        trays.use(0, 1, 0);
+        trays.cut(1, 6, 5);
+        undoAll(trays);
+        Check.due("all is as before again", before, () -> withoutStack(trays));
+        Check.type(trays, "cut 0 1 1;use 1 2 1;cut 1 1 1;use 10 1 1;line;use 0 1 0;close;tray;use 9 3 2;");
+        Check.due("run", 9, trays::runCommands);
+        trays.undo();
+        trays.clearCommands();
+        Check.due("all is as before the run", before, () -> withoutStack(trays));
+    }
+
+    private static void undoAll(TypeTrays trays) {
+        for (int left = 3; left >= 0; left--) {
+            int due = left;
+            Check.due("undo", due, trays::undo);
+        }
     }
 
     /** The digest of the values behind the number of states on the stack, by the calls. */

@@ -90,6 +90,8 @@ public final class WhatIfTest {
         asks(trays, 0, 1, 1, 2, 0, 7);
         asks(trays, 0, 1, 2, 2, 0, 17);
         asks(trays, 0, 2, 1, 2, 0, 32);
+        Check.due("costOf asked first, after a hit", 0, () -> trays.costOf(0, 1, 0));
+        Check.due("costOf asked next", 7, () -> trays.costOf(0, 1, 1));
         trays.use(0, 1, 1);
         trays.drop(0, 1, 0);
         asks(trays, 0, 1, 0, 1, 0, 3);
