@@ -8,6 +8,14 @@ final class Check {
     private Check() {
     }
 
+    static int wrong() {
+        return wrong;
+    }
+
+    static int checked() {
+        return checked;
+    }
+
     static void due(String call, long want, LongSupplier answer) {
         compare(call, Long.toString(want), answerOf(answer));
     }

@@ -199,6 +199,9 @@ public final class ModelTest {
     }
 
     private void call(String name, int... numbers) {
+        if (calls.size() == CALLS) {
+            return;
+        }
         StringBuilder written = new StringBuilder(name);
         for (int number : numbers) {
             written.append(' ').append(number);

@@ -6,6 +6,7 @@ public final class UndoDigestTest {
         promise23Undo();
         promise23KeepsFour();
         promise23BringsBackEverything();
+        promise23BringsBackWhatARunChanged();
         promise23ThrowingCallsSaveNothing();
         promise24NewObject();
         promise24AgainstTheCalls();
@@ -44,46 +45,30 @@ public final class UndoDigestTest {
     }
 
     private static void promise23BringsBackEverything() {
-        TypeTrays trays = new TypeTrays();
+        StringBuilder busy = new StringBuilder();
         for (int sign = 0; sign < 7; sign++) {
-            trays.cut(sign, 6, 6);
-            trays.use(sign, 1 + sign % 3, sign % 2);
+            busy.append("cut ").append(sign).append(" 6 6; use ").append(sign).append(' ').append(1 + sign % 3);
+            busy.append(' ').append(sign % 2).append("; ");
         }
-        trays.newLine();
-        trays.use(5, 3, 0);
-        trays.newLine();
-        trays.newLine();
-        trays.addTray();
-        long before = withoutStack(trays);
-        trays.use(5, 3, 0);
-        trays.drop(1, 2, 1);
-        trays.use(9, 3, 0);
-        trays.use(0, 1, 0);
-        undoAll(trays);
-        Check.due("all is as before", before, () -> withoutStack(trays));
-        trays.cut(0, 1, 1);
-        trays.use(10, 1, 1);
-        trays.use(0, 1, 0);
-        trays.cut(1, 6, 5);
-        undoAll(trays);
-        Check.due("all is as before again", before, () -> withoutStack(trays));
+        busy.append("newLine; use 5 3 0; newLine; newLine; addTray; ");
+        String undone = "undo; undo; undo; undo";
+        sameValues(busy.toString(), "use 5 3 0; drop 1 2 1; use 9 3 0; use 0 1 0; " + undone);
+        sameValues(busy.toString(), "cut 0 1 1; use 10 1 1; use 0 1 0; cut 1 6 5; " + undone);
+    }
+
+    private static void sameValues(String before, String changes) {
+        Check.compare("all is as before " + changes, Values.of(Calls.builder(before)).toString(),
+                Values.of(Calls.builder(before + changes)).toString());
+    }
+
+    private static void promise23BringsBackWhatARunChanged() {
+        TypeTrays trays = Calls.after("cut 0 6 6; use 0 1 0; use 1 2 1");
+        long before = trays.digest();
         Check.type(trays, "cut 0 1 1;use 1 2 1;cut 1 1 1;use 10 1 1;line;use 0 1 0;close;tray;use 9 3 2;");
         Check.due("run", 9, trays::runCommands);
-        trays.undo();
+        Check.due("undo", 3, trays::undo);
         trays.clearCommands();
-        Check.due("all is as before the run", before, () -> withoutStack(trays));
-    }
-
-    private static void undoAll(TypeTrays trays) {
-        for (int left = 3; left >= 0; left--) {
-            int due = left;
-            Check.due("undo", due, trays::undo);
-        }
-    }
-
-    /** The digest of the values behind the number of states on the stack, by the calls. */
-    private static long withoutStack(TypeTrays trays) {
-        return digestByCalls(trays, 0);
+        Check.due("all is as before the run", before, trays::digest);
     }
 
     private static void promise23ThrowingCallsSaveNothing() {
@@ -103,58 +88,26 @@ public final class UndoDigestTest {
         TypeTrays trays = new TypeTrays();
         long first = trays.digest();
         Check.due("digest changes nothing", first, trays::digest);
-        Check.due("digest of a new object", digestByCalls(trays, 0), trays::digest);
+        Check.due("digest of a new object", Values.digest(TypeTrays::new, 0), trays::digest);
         trays.newLine();
         trays.undo();
         Check.due("digest after undo", first, trays::digest);
         trays.closeShelves();
-        Check.due("the stack counts", digestByCalls(trays, 1), trays::digest);
+        Check.due("the stack counts", Values.digest(Calls.builder("closeShelves"), 1), trays::digest);
         trays.type('x');
-        Check.due("the length of the text counts", digestByCalls(trays, 1), trays::digest);
+        Check.due("the length of the text counts", Values.digest(Calls.builder("closeShelves; type 0"), 1),
+                trays::digest);
     }
 
     private static void promise24AgainstTheCalls() {
-        TypeTrays trays = new TypeTrays();
-        trays.addTray();
+        StringBuilder calls = new StringBuilder("addTray; ");
         for (int sign = 0; sign < 16; sign++) {
-            trays.cut(sign, 1 + sign % 6, 6 - sign % 5);
-            trays.use(sign, 1 + sign % 3, sign % 3);
-            if (sign == 9) {
-                trays.newLine();
-            }
+            calls.append("cut ").append(sign).append(' ').append(1 + sign % 6).append(' ').append(6 - sign % 5);
+            calls.append("; use ").append(sign).append(' ').append(1 + sign % 3).append(' ').append(sign % 3);
+            calls.append(sign == 9 ? "; newLine; " : "; ");
         }
+        TypeTrays trays = Calls.after(calls.toString());
         Check.due("letters stand in the street", 1, () -> trays.whole(3) > 1 ? 1 : 0);
-        Check.due("digest", digestByCalls(trays, 4), trays::digest);
-    }
-
-    private static long digestByCalls(TypeTrays trays, int states) {
-        long hash = 31 * 43532L + states;
-        for (int what = 0; what <= 12; what++) {
-            hash = 31 * hash + trays.whole(what);
-        }
-        for (int sign = 0; sign < 16; sign++) {
-            for (int what = 0; what <= 3; what++) {
-                hash = 31 * hash + trays.sign(sign, what);
-            }
-        }
-        for (int letter = 0; letter < 144; letter++) {
-            for (int what = 0; what <= 8; what++) {
-                hash = 31 * hash + trays.letter(letter / 9, 1 + letter / 3 % 3, letter % 3, what);
-            }
-        }
-        for (int tray = 0; tray < trays.whole(0); tray++) {
-            for (int what = 0; what <= 3; what++) {
-                hash = 31 * hash + trays.tray(tray, what);
-            }
-            for (int shelf = 0; shelf < trays.tray(tray, 0); shelf++) {
-                for (int what = 0; what <= 6; what++) {
-                    hash = 31 * hash + trays.shelf(tray, shelf, what);
-                }
-            }
-        }
-        for (int index = 0; index < trays.whole(3); index++) {
-            hash = 31 * hash + trays.street(index);
-        }
-        return 31 * (31 * hash + trays.oldest()) + trays.greatestGap();
+        Check.due("digest", Values.digest(Calls.builder(calls.toString()), 4), trays::digest);
     }
 }
