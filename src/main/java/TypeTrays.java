@@ -295,6 +295,7 @@ public final class TypeTrays {
                 }
                 state.openTray();
                 return true;
+            case CLOSE:
             default:
                 state.closeEmptyShelves();
                 return true;
@@ -1288,6 +1289,7 @@ public final class TypeTrays {
                     return "line";
                 case TRAY:
                     return "tray";
+                case CLOSE:
                 default:
                     return "close";
             }

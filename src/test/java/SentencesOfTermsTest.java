@@ -212,21 +212,28 @@ public final class SentencesOfTermsTest {
     }
 
     private static void theLastOf512Calls() {
-        TypeTrays lines = new TypeTrays();
-        TypeTrays uses = new TypeTrays();
-        TypeTrays undone = new TypeTrays();
-        for (int call = 1; call <= 511; call++) {
-            lines.newLine();
-            uses.use(0, 1, 0);
-            if (call % 2 == 1) {
-                undone.use(call % 16, 2, 0);
-            } else {
-                undone.undo();
-            }
+        lastAnswer("newLine", "whole 4", 511);
+        lastAnswer("newLine", "newLine", 0);
+        lastAnswer("use 0 1 0", "whole 5", 511);
+        lastAnswer("use 0 1 0", "whole 6", 510);
+        lastAnswer("use 0 1 0", "letter 0 1 0 5", 511);
+        lastAnswer("use 0 1 0", "letter 0 1 0 7", 511);
+        lastAnswer("use 0 1 0; drop 0 1 0", "whole 7", 256);
+        lastAnswer("use 0 1 0; drop 0 1 0", "whole 8", 255);
+        lastAnswer("use 0 1 0; drop 0 1 0", "whole 9", 4 * 256);
+        lastAnswer("use 0 1 0; undo", "whole 5", 1);
+        lastAnswer("newLine; newLine; undo", "undo", 3);
+        lastAnswer("type 32; clearCommands", "whole 12", 1);
+    }
+
+    /** The answer to the call that stands behind 511 others. */
+    private static void lastAnswer(String calls, String last, long due) {
+        TypeTrays trays = new TypeTrays();
+        String[] inTurn = calls.split(";");
+        for (int call = 0; call < 511; call++) {
+            Calls.answer(trays, inTurn[call % inTurn.length]);
         }
-        Calls.due(lines, "newLine", 0);
-        Calls.due(uses, "letter 0 1 0 7", 511);
-        Calls.due(undone, "whole 5", 1);
+        Calls.due(trays, last, due);
     }
 
     // ---- signs and letters

@@ -172,6 +172,10 @@ public final class SentencesOfTextsTest {
         faultAt("a", 0);
         faultAt("z;", 0);
         faultAt("liNe;", 0);
+        faultAt("lineX;", 4);
+        faultAt("lineA;", 4);
+        faultAt("line`;", 4);
+        faultAt("line{;", 4);
         faultAt("7 1;", 0);
         faultAt("line;Tray;", 5);
     }

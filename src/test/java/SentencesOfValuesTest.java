@@ -342,7 +342,9 @@ public final class SentencesOfValuesTest {
             values("", "street #", 0, -1, -1);
             values(LAID, "street #", 2, -1, -1, -1);
             values(LAID, "street #", Integer.MAX_VALUE, -1);
-            values(Calls.cuts(5, 6, 6) + Calls.forEach("use # 3 2", 0, 1, 2, 3, 4), "street #", 3, 432, -1);
+            String full = Calls.cuts(5, 6, 6) + Calls.forEach("use # 3 2", 0, 1, 2, 3, 4);
+            values(full, "street #", 3, 432, -1, -1, -1, -1, -1, -1, -1, -1, -1, -1, -1, -1, -1);
+            values(full, "street #", Integer.MAX_VALUE - 7, -1, -1, -1, -1, -1, -1, -1, -1);
         });
         part.holds("Throws `IllegalArgumentException` if index is negative",
                 () -> refused("street #", ARGUMENT, -1, -2, Integer.MIN_VALUE));
@@ -392,6 +394,7 @@ public final class SentencesOfValuesTest {
         part.holds("11 sum of width * height of all letters that are laid,", () -> {
             values("", "whole #", 11, 0);
             values(LAID + "use 3 3 0", "whole #", 11, 86 + 324);
+            values("use 0 1 0", "whole #", 11, 4);
         });
         part.holds("12 length of the command text", SentencesOfValuesTest::lengthOfTheText);
         wholeThatIsCounted(part);
