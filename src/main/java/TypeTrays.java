@@ -608,7 +608,7 @@ public final class TypeTrays {
 
         int inkFor(int letter) {
             int sharp = letter - blurOf(letter);
-            int area = widthOf(letter) * heightOf(letter);
+            int area = areaOf(letter);
             return letter != sharp && isThere(sharp) ? area / 2 : area;
         }
 
